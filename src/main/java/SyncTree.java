@@ -22,6 +22,8 @@ public final class SyncTree {
     private static final int MOST_ROOM = 2000;
     private static final int MOST_CELLS = FIRST_ROOM + MOST_ROOM;
     private static final int MOST_BLOCKS = FIRST_LOG + MOST_LOG + MOST_ROOM;
+    /** The bits of a pointer that are its cell: all that they can tell is a place in memory. */
+    private static final int CELL_BITS = 2047;
 
     private static final int NODES = 64;
     private static final int UNUSED = 0;
@@ -61,6 +63,7 @@ public final class SyncTree {
     }
 
     private void begin(int log, int room) {
+        journal.forget();
         disk.reset(FIRST_LOG + log + room);
         space.reset(log, room);
         tree.reset();
@@ -68,7 +71,7 @@ public final class SyncTree {
         tape.useUp();
         first.forget();
         second.forget();
-        Arrays.fill(handles, -1);
+        Arrays.fill(handles, NONE);
     }
 
     public int feed(int a, int b, int c, int d, int e) {
@@ -96,12 +99,12 @@ public final class SyncTree {
 
     public int create() throws IllegalStateException {
         journal.postAhead();
-        return make(FILE);
+        return make(FILE, placeForNew());
     }
 
     public int mkdir() throws IllegalStateException {
         journal.postAhead();
-        return make(DIRECTORY);
+        return make(DIRECTORY, placeForNew());
     }
 
     public int symlink() throws IllegalStateException {
@@ -109,11 +112,11 @@ public final class SyncTree {
         if (second.length < 1 || second.length > MOST_TEXT) {
             return BAD;
         }
-        return make(LINK);
+        return make(LINK, placeForNew());
     }
 
-    private int make(int kind) {
-        int directory = placeForNew();
+    /** Makes a node in a directory (or answers why there is none). */
+    private int make(int kind, int directory) {
         if (directory < 0) {
             return directory;
         }
@@ -289,12 +292,9 @@ public final class SyncTree {
             tree.discard(node);
             return;
         }
-        tree.setNames(node, tree.names(node) - 1);
-        discardIfUnused(node);
-    }
-
-    private void discardIfUnused(int node) {
-        if (tree.names(node) == 0 && !isHeld(node)) {
+        int left = tree.names(node) - 1;
+        tree.setNames(node, left);
+        if (left <= 0 && !isHeld(node)) {
             tree.discard(node);
         }
     }
@@ -337,8 +337,10 @@ public final class SyncTree {
         if (node < 0) {
             return BAD;
         }
-        handles[h] = -1;
-        discardIfUnused(node);
+        handles[h] = NONE;
+        if (tree.names(node) == 0 && !isHeld(node)) {
+            tree.discard(node);
+        }
         return 0;
     }
 
@@ -525,7 +527,8 @@ public final class SyncTree {
         int written = 0;
         for (int cell = FIRST_ROOM; cell < space.cells && written < most && space.dirtyCount > 0; cell++) {
             if (space.isDirty(cell) && (node == NONE || space.ownerOf(cell) == node)) {
-                disk.put(space.numberOf(cell), space.birthOf(cell), space.row(cell));
+                disk.put(space.numberOf(cell), space.birthOf(cell));
+                disk.giveBytes(space.words, cell * WORDS);
                 space.clean(cell);
                 written++;
             }
@@ -579,8 +582,8 @@ public final class SyncTree {
             return BAD;
         }
         int whole = journal.replay();
-        loader.load();
-        Arrays.fill(handles, -1);
+        loader.loadAll();
+        Arrays.fill(handles, NONE);
         tree.discardNameless();
         return whole;
     }
@@ -606,76 +609,10 @@ public final class SyncTree {
         return what < 12 ? space.figure(what) : journal.figure(what);
     }
 
-    /** The bytes of one block, eight in a word, so that a full disk takes few elements. */
+    /** The bytes of a block, eight in a word: a full disk takes few elements then. */
     private static final class Row {
         private final long[] words = new long[WORDS];
         private Row next;
-
-        long word(int i) {
-            return i < 0 || i >= WORDS ? 0 : words[i];
-        }
-
-        void setWord(int i, long value) {
-            if (i >= 0 && i < WORDS) {
-                words[i] = value;
-            }
-        }
-
-        int octet(int i) {
-            return i < 0 || i >= BYTES ? 0 : (int) (words[i >> 3] >>> ((i & 7) << 3)) & 255;
-        }
-
-        void setOctet(int i, int value) {
-            if (i < 0 || i >= BYTES) {
-                return;
-            }
-            int shift = (i & 7) << 3;
-            words[i >> 3] = (words[i >> 3] & ~(255L << shift)) | ((long) (value & 255) << shift);
-        }
-
-        void setSpan(int from, int to, int value) {
-            long eight = (value & 255) * 0x0101010101010101L;
-            int end = Math.min(to, BYTES);
-            int i = Math.max(from, 0);
-            while (i < end) {
-                if ((i & 7) == 0 && end - i >= 8) {
-                    words[i >> 3] = eight;
-                    i += 8;
-                } else {
-                    setOctet(i, value);
-                    i++;
-                }
-            }
-        }
-
-        void zero() {
-            Arrays.fill(words, 0L);
-        }
-
-        void copyFrom(Row other) {
-            System.arraycopy(other.words, 0, words, 0, WORDS);
-        }
-
-        boolean isZeroFrom(int from) {
-            for (int i = Math.max(from, 0); i < BYTES; i++) {
-                if ((i & 7) == 0) {
-                    return areWordsZeroFrom(i >> 3);
-                }
-                if (octet(i) != 0) {
-                    return false;
-                }
-            }
-            return true;
-        }
-
-        private boolean areWordsZeroFrom(int from) {
-            for (int i = Math.max(from, 0); i < WORDS; i++) {
-                if (words[i] != 0) {
-                    return false;
-                }
-            }
-            return true;
-        }
     }
 
     /** Bytes that were fed and not used up. */
@@ -762,7 +699,8 @@ public final class SyncTree {
     /** The disk: what is kept of each block, the versions in its cache, and power. */
     private static final class Disk {
         private static final int CACHE = 256;
-        private static final int SEED_SHIFTS = 54;
+        private static final int SHIFTS = 54;
+        private static final int CHOICES = 1023;
         /** Tells what a version is: of data when its block was got, of the log who posted it, of the head its tail. */
         private final int[] keptTag = new int[MOST_BLOCKS];
         private final Row[] keptRow = new Row[MOST_BLOCKS];
@@ -770,8 +708,9 @@ public final class SyncTree {
         private final int[] choice = new int[MOST_BLOCKS];
         private final int[] slotBlock = new int[CACHE];
         private final int[] slotTag = new int[CACHE];
+        /** Only versions of data have bytes here: of META the journal knows what was posted. */
         private final Row[] slotRow = new Row[CACHE];
-        private final boolean[] slotHasRow = new boolean[CACHE];
+        private final boolean[] slotHasBytes = new boolean[CACHE];
         private int blocks;
         private int oldest;
         private int held;
@@ -781,9 +720,11 @@ public final class SyncTree {
         private boolean on;
 
         void reset(int newBlocks) {
-            Arrays.fill(keptTag, 0, blocks, 0);
-            Arrays.fill(count, 0, blocks, 0);
-            Arrays.fill(choice, 0, blocks, 0);
+            for (int b = 0; b < blocks; b++) {
+                keptTag[b] = 0;
+                count[b] = 0;
+                choice[b] = 0;
+            }
             blocks = Math.max(0, Math.min(newBlocks, MOST_BLOCKS));
             oldest = 0;
             held = 0;
@@ -818,8 +759,7 @@ public final class SyncTree {
             }
         }
 
-        /** Writes a version; only those of files' data need a row. */
-        void put(int block, int tag, Row content) {
+        void put(int block, int tag) {
             act();
             if (block < 0 || block >= blocks) {
                 return;
@@ -830,20 +770,27 @@ public final class SyncTree {
             int slot = (oldest + held) % CACHE;
             slotBlock[slot] = block;
             slotTag[slot] = tag;
-            slotHasRow[slot] = content != null;
-            if (content != null) {
-                if (slotRow[slot] == null) {
-                    slotRow[slot] = new Row();
-                }
-                slotRow[slot].copyFrom(content);
-            }
+            slotHasBytes[slot] = false;
             held++;
             count[block]++;
         }
 
+        /** The bytes of the version that was put last. */
+        void giveBytes(long[] words, int from) {
+            if (held < 1 || from < 0 || from > words.length - WORDS) {
+                return;
+            }
+            int slot = (oldest + held - 1) % CACHE;
+            if (slotRow[slot] == null) {
+                slotRow[slot] = new Row();
+            }
+            System.arraycopy(words, from, slotRow[slot].words, 0, WORDS);
+            slotHasBytes[slot] = true;
+        }
+
         void flushCache() {
             act();
-            while (held > 0) {
+            for (int left = held; left > 0; left--) {
                 keepOldest();
             }
             flushes++;
@@ -860,14 +807,14 @@ public final class SyncTree {
         private void keep(int slot) {
             int block = slotBlock[slot];
             keptTag[block] = slotTag[slot];
-            if (slotHasRow[slot]) {
+            if (slotHasBytes[slot]) {
                 Row before = keptRow[block];
                 keptRow[block] = slotRow[slot];
                 slotRow[slot] = before;
             }
         }
 
-        /** Turns power on with what the choices tell; a choice is counted down to the version that it means. */
+        /** Turns power on with what the choices tell: each is counted down to the version that it means. */
         void settle() {
             for (int i = 0; i < held; i++) {
                 int slot = (oldest + i) % CACHE;
@@ -884,9 +831,9 @@ public final class SyncTree {
             on = true;
         }
 
-        /** How many versions a block has, -1 if there is no such block. */
+        /** How many versions a block has; NONE if there is no such block. */
         int countOf(int block) {
-            return block < 0 || block >= blocks ? -1 : count[block];
+            return block < 0 || block >= blocks ? NONE : count[block];
         }
 
         void setChoice(int block, int version) {
@@ -900,7 +847,7 @@ public final class SyncTree {
             for (int b = 0; b < blocks; b++) {
                 int v = count[b];
                 if (v > 0) {
-                    choice[b] = (int) (((seed >>> b % SEED_SHIFTS) & 1023) % (v + 1));
+                    choice[b] = (int) (((seed >>> (b % SHIFTS)) & CHOICES) % (v + 1));
                     found++;
                 }
             }
@@ -911,13 +858,9 @@ public final class SyncTree {
             return block < 0 || block >= blocks ? 0 : keptTag[block];
         }
 
-        /** What is kept of a block's data since a birth, zeros if nothing is. */
-        void readKept(int block, int birth, Row into) {
-            if (tagOf(block) == birth && block >= 0 && block < blocks && keptRow[block] != null) {
-                into.copyFrom(keptRow[block]);
-            } else {
-                into.zero();
-            }
+        /** What is kept of a block's data that was written since its birth; null if nothing is. */
+        Row keptSince(int block, int birth) {
+            return block < 0 || block >= blocks || keptTag[block] != birth ? null : keptRow[block];
         }
 
         int figure(int what) {
@@ -935,7 +878,8 @@ public final class SyncTree {
     private static final class Space {
         private static final int DESCRIBED = 120;
         private static final int GOT = -1;
-        private final Row[] live = new Row[MOST_CELLS];
+        /** Those of cell 0 stay 0: what has no block reads them. */
+        private final long[] words = new long[(CELL_BITS + 1) * WORDS];
         /** 0: it is free; GOT; or the group with which it becomes free. */
         private final int[] state = new int[MOST_CELLS];
         private final int[] birth = new int[MOST_CELLS];
@@ -955,47 +899,46 @@ public final class SyncTree {
         private int births;
         private int group;
 
-        Space() {
-            for (int cell = 0; cell < FIRST_ROOM; cell++) {
-                live[cell] = new Row();
-            }
-        }
-
         void reset(int newLog, int room) {
             forgetMarks();
             cells = FIRST_ROOM + Math.max(0, Math.min(room, MOST_ROOM));
             log = newLog;
-            Arrays.fill(state, FIRST_ROOM, cells, 0);
-            unused = cells - FIRST_ROOM;
-            retired = 0;
-            lowest = FIRST_ROOM;
             births = 0;
-            group = 1;
-            row(MAP).zero();
+            for (int cell = MAP; cell < FIRST_ROOM; cell++) {
+                load(cell, null);
+            }
+            readMap();
         }
 
         private void forgetMarks() {
-            Arrays.fill(dirty, 0, cells, (byte) 0);
-            dirtyCount = 0;
+            for (int cell = 0; cell < cells && dirtyCount > 0; cell++) {
+                clean(cell);
+            }
             emptyGroup(group);
         }
 
         void emptyGroup(int newGroup) {
-            Arrays.fill(touched, 0, cells, (byte) 0);
-            Arrays.fill(revoked, 0, cells, (byte) 0);
-            touchedCount = 0;
-            revokedCount = 0;
+            for (int cell = 0; cell < cells && touchedCount + revokedCount > 0; cell++) {
+                touchedCount -= touched[cell];
+                revokedCount -= revoked[cell];
+                touched[cell] = 0;
+                revoked[cell] = 0;
+            }
             group = newGroup;
         }
 
-        boolean has(int cell) {
-            return cell > HEAD && cell < cells;
-        }
-
-        /** The cell's bytes; what there is no cell for reads as zeros. */
-        Row row(int cell) {
-            Row found = has(cell) ? live[cell] : null;
-            return found == null ? live[HEAD] : found;
+        /** Takes over which cells are got, from the map as it was read. */
+        void readMap() {
+            forgetMarks();
+            unused = 0;
+            retired = 0;
+            lowest = FIRST_ROOM;
+            for (int cell = FIRST_ROOM; cell < cells; cell++) {
+                int i = cell - FIRST_ROOM;
+                boolean got = (word(MAP, i >> 6) >>> (i & 63) & 1) != 0;
+                state[cell] = got ? GOT : 0;
+                unused += got ? 0 : 1;
+            }
         }
 
         /** A block's number on the disk. */
@@ -1004,51 +947,125 @@ public final class SyncTree {
         }
 
         int birthOf(int cell) {
-            return has(cell) ? birth[cell] : 0;
+            return cell < 0 || cell >= cells ? 0 : birth[cell];
         }
 
         int ownerOf(int cell) {
-            return has(cell) ? owner[cell] : NONE;
+            return cell < 0 || cell >= cells ? NONE : owner[cell];
         }
 
         boolean isTouched(int cell) {
-            return has(cell) && touched[cell] != 0;
+            return cell > HEAD && cell < cells && touched[cell] != 0;
         }
 
         boolean isRevoked(int cell) {
-            return has(cell) && revoked[cell] != 0;
+            return cell > HEAD && cell < cells && revoked[cell] != 0;
         }
 
         boolean isDirty(int cell) {
-            return has(cell) && dirty[cell] != 0;
+            return cell > HEAD && cell < cells && dirty[cell] != 0;
+        }
+
+        long word(int cell, int i) {
+            return cell < 0 || cell >= cells || i < 0 || i >= WORDS ? 0 : words[cell * WORDS + i];
+        }
+
+        /** Sets a word of META. */
+        void setWord(int cell, int i, long value) {
+            if (cell > HEAD && cell < cells && i >= 0 && i < WORDS) {
+                words[cell * WORDS + i] = value;
+                touch(cell);
+            }
+        }
+
+        int octet(int cell, int i) {
+            if (cell < 0 || cell >= cells || i < 0 || i >= BYTES) {
+                return 0;
+            }
+            return (int) (words[cell * WORDS + (i >> 3)] >>> ((i & 7) << 3)) & 255;
+        }
+
+        void setOctet(int cell, int i, int value) {
+            if (cell <= HEAD || cell >= cells || i < 0 || i >= BYTES) {
+                return;
+            }
+            int at = cell * WORDS + (i >> 3);
+            int shift = (i & 7) << 3;
+            words[at] = (words[at] & ~(255L << shift)) | ((long) (value & 255) << shift);
+        }
+
+        /** Sets bytes to the same value: eight at a time where a whole word is meant. */
+        void setSpan(int cell, int from, int to, int value) {
+            long eight = (value & 255) * 0x0101010101010101L;
+            int end = Math.min(to, BYTES);
+            int i = Math.max(from, 0);
+            while (i < end) {
+                if ((i & 7) == 0 && end - i >= 8 && cell > HEAD && cell < cells) {
+                    words[cell * WORDS + (i >> 3)] = eight;
+                    i += 8;
+                } else {
+                    setOctet(cell, i, value);
+                    i++;
+                }
+            }
+        }
+
+        boolean isZeroFrom(int cell, int from) {
+            int i = Math.max(from, 0);
+            while (i < BYTES) {
+                if ((i & 7) == 0) {
+                    if (word(cell, i >> 3) != 0) {
+                        return false;
+                    }
+                    i += 8;
+                } else {
+                    if (octet(cell, i) != 0) {
+                        return false;
+                    }
+                    i++;
+                }
+            }
+            return true;
+        }
+
+        /** Sets all of a cell's bytes; to zeros without a row. */
+        void load(int cell, Row row) {
+            if (cell <= HEAD || cell >= MOST_CELLS) {
+                return;
+            }
+            if (row != null) {
+                System.arraycopy(row.words, 0, words, cell * WORDS, WORDS);
+                return;
+            }
+            for (int i = 0; i < WORDS; i++) {
+                words[cell * WORDS + i] = 0;
+            }
+        }
+
+        void save(int cell, Row row) {
+            if (cell >= 0 && cell < MOST_CELLS) {
+                System.arraycopy(words, cell * WORDS, row.words, 0, WORDS);
+            }
         }
 
         void touch(int cell) {
-            if (has(cell) && touched[cell] == 0) {
+            if (cell > HEAD && cell < cells && touched[cell] == 0) {
                 touched[cell] = 1;
                 touchedCount++;
             }
         }
 
         void soil(int cell) {
-            if (has(cell) && dirty[cell] == 0) {
+            if (cell > HEAD && cell < cells && dirty[cell] == 0) {
                 dirty[cell] = 1;
                 dirtyCount++;
             }
         }
 
         void clean(int cell) {
-            if (isDirty(cell)) {
+            if (cell > HEAD && cell < cells && dirty[cell] != 0) {
                 dirty[cell] = 0;
                 dirtyCount--;
-            }
-        }
-
-        /** Sets a word of a block of META. */
-        void setWord(int cell, int i, long value) {
-            if (has(cell)) {
-                row(cell).setWord(i, value);
-                touch(cell);
             }
         }
 
@@ -1065,7 +1082,7 @@ public final class SyncTree {
             unused--;
             births++;
             adopt(cell, births, node);
-            row(cell).zero();
+            load(cell, null);
             mark(cell, true);
             touch(MAP);
             if (meta) {
@@ -1074,21 +1091,17 @@ public final class SyncTree {
             return ((long) births << 16) | cell;
         }
 
-        /** Notes what a cell that is got belongs to, and has memory for it. */
+        /** Notes what a cell that is got belongs to. */
         void adopt(int cell, int itsBirth, int node) {
-            if (!has(cell)) {
-                return;
-            }
-            state[cell] = GOT;
-            birth[cell] = itsBirth;
-            owner[cell] = (byte) node;
-            if (live[cell] == null) {
-                live[cell] = new Row();
+            if (cell >= FIRST_ROOM && cell < cells) {
+                state[cell] = GOT;
+                birth[cell] = itsBirth;
+                owner[cell] = (byte) node;
             }
         }
 
         void release(int cell, boolean meta) {
-            if (!has(cell) || state[cell] != GOT) {
+            if (cell < FIRST_ROOM || cell >= cells || state[cell] != GOT) {
                 return;
             }
             state[cell] = group;
@@ -1112,11 +1125,12 @@ public final class SyncTree {
             }
         }
 
+        /** Sets a cell's bit in the map. */
         private void mark(int cell, boolean got) {
             int i = cell - FIRST_ROOM;
-            Row map = row(MAP);
+            int at = MAP * WORDS + ((i >> 6) & (WORDS - 1));
             long bit = 1L << (i & 63);
-            map.setWord(i >> 6, got ? map.word(i >> 6) | bit : map.word(i >> 6) & ~bit);
+            words[at] = got ? words[at] | bit : words[at] & ~bit;
         }
 
         void freeRetired(int durable) {
@@ -1127,21 +1141,6 @@ public final class SyncTree {
                     unused++;
                     lowest = Math.min(lowest, cell);
                 }
-            }
-        }
-
-        /** Takes over what the map tells, when it has been read. */
-        void readMap() {
-            forgetMarks();
-            Row map = row(MAP);
-            unused = 0;
-            retired = 0;
-            lowest = FIRST_ROOM;
-            for (int cell = FIRST_ROOM; cell < cells; cell++) {
-                int i = cell - FIRST_ROOM;
-                boolean got = (map.word(i >> 6) >>> (i & 63) & 1) != 0;
-                state[cell] = got ? GOT : 0;
-                unused += got ? 0 : 1;
             }
         }
 
@@ -1173,6 +1172,7 @@ public final class SyncTree {
         private static final int FANOUT = 32;
         private static final int FIRST_LEAF = OWN + FANOUT;
         private static final int NODE_WORDS = 16;
+        private static final int FIRST_WORD = FIRST_NODES * WORDS;
         private static final int OWN_WORD = 1;
         private static final int SINGLE_WORD = 9;
         private static final int DOUBLE_WORD = 10;
@@ -1182,39 +1182,41 @@ public final class SyncTree {
         private static final int LENGTH_OCTET = 28;
         private static final int NODE_OCTET = 29;
         private final Space space;
+        private final long[] words;
         private final byte[] changed = new byte[NODES];
 
         Tree(Space space) {
             this.space = space;
+            words = space.words;
         }
 
+        /** The root alone; it is there without having been touched. */
         void reset() {
-            for (int cell = FIRST_NODES; cell < FIRST_ROOM; cell++) {
-                space.row(cell).zero();
-            }
-            forgetChanges();
             setUp(0, DIRECTORY, 0);
+            forgetChanges();
             space.emptyGroup(1);
         }
 
         static int cellOf(long pointer) {
-            return (int) (pointer & 0xFFFF);
+            return (int) pointer & CELL_BITS;
         }
 
         static int birthOf(long pointer) {
             return (int) (pointer >>> 16);
         }
 
-        private static int nodeCell(int node) {
-            return node < 0 || node >= NODES ? HEAD : FIRST_NODES + node / 2;
-        }
-
         long nodeWord(int node, int i) {
-            return space.row(nodeCell(node)).word((node & 1) * NODE_WORDS + i);
+            if (node < 0 || node >= NODES || i < 0 || i >= NODE_WORDS) {
+                return 0;
+            }
+            return words[FIRST_WORD + node * NODE_WORDS + i];
         }
 
         private void setNodeWord(int node, int i, long value) {
-            space.setWord(nodeCell(node), (node & 1) * NODE_WORDS + i, value);
+            if (node >= 0 && node < NODES && i >= 0 && i < NODE_WORDS) {
+                words[FIRST_WORD + node * NODE_WORDS + i] = value;
+                space.touch(FIRST_NODES + node / 2);
+            }
         }
 
         int kind(int node) {
@@ -1250,24 +1252,22 @@ public final class SyncTree {
         }
 
         void setUp(int node, int kind, int parent) {
-            setHeader(node, kind, kind == DIRECTORY ? 0 : 1, kind == DIRECTORY ? parent : 0, 0);
-            if (node >= 0 && node < NODES) {
-                changed[node] = 0;
-            }
+            boolean isDirectory = kind == DIRECTORY;
+            setHeader(node, kind, isDirectory ? 0 : 1, isDirectory ? parent : 0, 0);
+            noteChange(node, 0);
         }
 
         void setText(int node, PathText text) {
             int length = Math.min(text.length, MOST_TEXT);
             int from = ((node & 1) * NODE_WORDS + OWN_WORD) * 8;
-            Row row = space.row(nodeCell(node));
             for (int i = 0; i < length; i++) {
-                row.setOctet(from + i, text.bytes[i]);
+                space.setOctet(FIRST_NODES + node / 2, from + i, text.bytes[i]);
             }
             setSize(node, length);
         }
 
         int textOctet(int node, int i) {
-            return space.row(nodeCell(node)).octet(((node & 1) * NODE_WORDS + OWN_WORD) * 8 + i);
+            return space.octet(FIRST_NODES + node / 2, ((node & 1) * NODE_WORDS + OWN_WORD) * 8 + i);
         }
 
         int lowestUnused() {
@@ -1291,9 +1291,9 @@ public final class SyncTree {
             return node >= 0 && node < NODES && changed[node] != 0;
         }
 
-        private void noteChange(int node) {
+        private void noteChange(int node, int value) {
             if (node >= 0 && node < NODES) {
-                changed[node] = 1;
+                changed[node] = (byte) value;
             }
         }
 
@@ -1335,38 +1335,33 @@ public final class SyncTree {
             }
         }
 
-        /** The cell in which the pointer of an index stands; 0 if its pointer block is not there. */
-        private int placeCell(int node, int index) {
-            if (index < OWN) {
-                return nodeCell(node);
+        /** The pointer to the pointer block of an index above the node's own ones. */
+        private long table(int node, int index) {
+            if (node < 0 || node >= NODES || index < OWN || index >= INDEXES) {
+                return 0;
             }
+            int own = FIRST_WORD + node * NODE_WORDS;
             if (index < FIRST_LEAF) {
-                return cellOf(nodeWord(node, SINGLE_WORD));
+                return words[own + SINGLE_WORD];
             }
-            return cellOf(leafPointer(node, index));
-        }
-
-        private long leafPointer(int node, int index) {
-            return space.row(cellOf(nodeWord(node, DOUBLE_WORD))).word((index - FIRST_LEAF) / FANOUT);
-        }
-
-        /** The word of that cell in which it stands. */
-        private int placeWord(int node, int index) {
-            if (index < OWN) {
-                return (node & 1) * NODE_WORDS + OWN_WORD + index;
-            }
-            return (index - OWN) % FANOUT;
+            int top = (int) words[own + DOUBLE_WORD] & CELL_BITS;
+            return words[top * WORDS + (index - FIRST_LEAF) / FANOUT];
         }
 
         long pointer(int node, int index) {
-            if (index < 0 || index >= INDEXES) {
-                return 0;
+            if (index < OWN) {
+                return index < 0 ? 0 : nodeWord(node, OWN_WORD + index);
             }
-            return space.row(placeCell(node, index)).word(placeWord(node, index));
+            int cell = (int) table(node, index) & CELL_BITS;
+            return words[cell * WORDS + (index - OWN) % FANOUT];
         }
 
-        Row rowAt(int node, int index) {
-            return space.row(cellOf(pointer(node, index)));
+        private void setPointer(int node, int index, long pointer) {
+            if (index < OWN) {
+                setNodeWord(node, OWN_WORD + index, pointer);
+            } else {
+                space.setWord(cellOf(table(node, index)), (index - OWN) % FANOUT, pointer);
+            }
         }
 
         /** How many blocks the indexes from one to another must get, pointer blocks too. */
@@ -1376,16 +1371,14 @@ public final class SyncTree {
             }
             int count = 0;
             for (int i = from; i <= to; i++) {
+                boolean firstOfTable = i == from || (i - OWN) % FANOUT == 0;
                 if (pointer(node, i) == 0) {
                     count++;
                 }
-                if (i >= OWN && i < FIRST_LEAF && (i == from || i == OWN) && nodeWord(node, SINGLE_WORD) == 0) {
+                if (i >= OWN && firstOfTable && table(node, i) == 0) {
                     count++;
                 }
                 if (i >= FIRST_LEAF && (i == from || i == FIRST_LEAF) && nodeWord(node, DOUBLE_WORD) == 0) {
-                    count++;
-                }
-                if (i >= FIRST_LEAF && (i == from || placeWord(node, i) == 0) && leafPointer(node, i) == 0) {
                     count++;
                 }
             }
@@ -1397,20 +1390,19 @@ public final class SyncTree {
             if (index < 0 || index >= INDEXES || pointer(node, index) != 0) {
                 return;
             }
-            if (index >= FIRST_LEAF) {
-                if (nodeWord(node, DOUBLE_WORD) == 0) {
-                    setNodeWord(node, DOUBLE_WORD, space.obtain(node, true));
-                }
-                if (leafPointer(node, index) == 0) {
-                    int cell = cellOf(nodeWord(node, DOUBLE_WORD));
-                    space.setWord(cell, (index - FIRST_LEAF) / FANOUT, space.obtain(node, true));
-                }
-            } else if (index >= OWN && nodeWord(node, SINGLE_WORD) == 0) {
-                setNodeWord(node, SINGLE_WORD, space.obtain(node, true));
+            if (index >= FIRST_LEAF && nodeWord(node, DOUBLE_WORD) == 0) {
+                setNodeWord(node, DOUBLE_WORD, space.obtain(node, true));
             }
-            long got = space.obtain(node, kind(node) == DIRECTORY);
-            space.setWord(placeCell(node, index), placeWord(node, index), got);
-            noteChange(node);
+            if (index >= OWN && table(node, index) == 0) {
+                long got = space.obtain(node, true);
+                if (index < FIRST_LEAF) {
+                    setNodeWord(node, SINGLE_WORD, got);
+                } else {
+                    space.setWord(cellOf(nodeWord(node, DOUBLE_WORD)), (index - FIRST_LEAF) / FANOUT, got);
+                }
+            }
+            setPointer(node, index, space.obtain(node, kind(node) == DIRECTORY));
+            noteChange(node, 1);
         }
 
         /** Frees the block of an index, and pointer blocks in which no pointer is left. */
@@ -1419,28 +1411,24 @@ public final class SyncTree {
             if (gone == 0) {
                 return;
             }
-            space.setWord(placeCell(node, index), placeWord(node, index), 0);
+            setPointer(node, index, 0);
             space.release(cellOf(gone), kind(node) == DIRECTORY);
-            noteChange(node);
+            noteChange(node, 1);
             if (index >= FIRST_LEAF) {
-                dropLeaf(node, index);
+                int leaf = cellOf(table(node, index));
+                if (space.isZeroFrom(leaf, 0)) {
+                    space.setWord(cellOf(nodeWord(node, DOUBLE_WORD)), (index - FIRST_LEAF) / FANOUT, 0);
+                    space.release(leaf, true);
+                    dropIfEmpty(node, DOUBLE_WORD);
+                }
             } else if (index >= OWN) {
                 dropIfEmpty(node, SINGLE_WORD);
             }
         }
 
-        private void dropLeaf(int node, int index) {
-            int leaf = placeCell(node, index);
-            if (space.row(leaf).isZeroFrom(0)) {
-                space.setWord(cellOf(nodeWord(node, DOUBLE_WORD)), (index - FIRST_LEAF) / FANOUT, 0);
-                space.release(leaf, true);
-                dropIfEmpty(node, DOUBLE_WORD);
-            }
-        }
-
         private void dropIfEmpty(int node, int word) {
             int cell = cellOf(nodeWord(node, word));
-            if (space.row(cell).isZeroFrom(0)) {
+            if (space.isZeroFrom(cell, 0)) {
                 setNodeWord(node, word, 0);
                 space.release(cell, true);
             }
@@ -1453,10 +1441,10 @@ public final class SyncTree {
             if (size == before) {
                 return;
             }
-            noteChange(node);
+            noteChange(node, 1);
             zeroBehind(node, Math.min(size, before));
             int least = (size + BYTES - 1) / BYTES;
-            for (int i = (before - 1) / BYTES; i >= least && i >= 0; i--) {
+            for (int i = (before - 1) / BYTES; i >= least; i--) {
                 drop(node, i);
             }
         }
@@ -1465,46 +1453,46 @@ public final class SyncTree {
         private void zeroBehind(int node, int end) {
             int cell = cellOf(pointer(node, end / BYTES));
             int from = end % BYTES;
-            if (cell != 0 && !space.row(cell).isZeroFrom(from)) {
-                space.row(cell).setSpan(from, BYTES, 0);
+            if (cell != 0 && !space.isZeroFrom(cell, from)) {
+                space.setSpan(cell, from, BYTES, 0);
                 space.soil(cell);
             }
         }
 
         void storeTape(int node, int at, int n, Tape tape) {
+            int cell = cellOf(pointer(node, at / BYTES));
             for (int i = 0; i < n; i++) {
-                int cell = cellOf(pointer(node, (at + i) / BYTES));
-                if (cell != 0) {
-                    space.row(cell).setOctet((at + i) % BYTES, tape.octet(i));
-                    space.soil(cell);
+                int within = (at + i) % BYTES;
+                if (within == 0) {
+                    cell = cellOf(pointer(node, (at + i) / BYTES));
                 }
+                space.setOctet(cell, within, tape.octet(i));
+                space.soil(cell);
             }
         }
 
         void storeSame(int node, int at, int n, int value) {
-            int end = at + n;
-            for (int index = at / BYTES; index * BYTES < end; index++) {
+            int last = (at + n - 1) / BYTES;
+            for (int index = at / BYTES; index <= last; index++) {
                 int cell = cellOf(pointer(node, index));
-                if (cell != 0) {
-                    space.row(cell).setSpan(at - index * BYTES, end - index * BYTES, value);
-                    space.soil(cell);
-                }
+                space.setSpan(cell, at - index * BYTES, at + n - index * BYTES, value);
+                space.soil(cell);
             }
         }
 
         int octetAt(int node, int at) {
-            return rowAt(node, at / BYTES).octet(at % BYTES);
+            return space.octet(cellOf(pointer(node, at / BYTES)), at % BYTES);
         }
 
         long checksum(int node, int at, int n) {
             long s = 0;
-            Row row = rowAt(node, at / BYTES);
+            int cell = cellOf(pointer(node, at / BYTES));
             for (int i = 0; i < n; i++) {
                 int within = (at + i) % BYTES;
                 if (within == 0) {
-                    row = rowAt(node, (at + i) / BYTES);
+                    cell = cellOf(pointer(node, (at + i) / BYTES));
                 }
-                s = 31 * s + row.octet(within) & 0xFFFFFFFFL;
+                s = (31 * s + space.octet(cell, within)) & 0xFFFFFFFFL;
             }
             return s;
         }
@@ -1526,7 +1514,8 @@ public final class SyncTree {
                 return 0;
             }
             int count = 0;
-            for (int i = 0; i * BYTES < size(node); i++) {
+            int last = (size(node) - 1) / BYTES;
+            for (int i = 0; i <= last; i++) {
                 count += pointer(node, i) == 0 ? 0 : 1;
             }
             return count;
@@ -1536,23 +1525,25 @@ public final class SyncTree {
             if (kind(node) == LINK) {
                 return 0;
             }
-            int count = nodeWord(node, SINGLE_WORD) == 0 ? 0 : 1;
             long top = nodeWord(node, DOUBLE_WORD);
+            int count = nodeWord(node, SINGLE_WORD) == 0 ? 0 : 1;
             count += top == 0 ? 0 : 1;
             for (int i = 0; i < FANOUT; i++) {
-                count += space.row(cellOf(top)).word(i) == 0 ? 0 : 1;
+                count += space.word(cellOf(top), i) == 0 ? 0 : 1;
             }
             return count;
         }
 
         /** How many entries a directory has, free ones too. */
         int entries(int directory) {
-            return kind(directory) == DIRECTORY ? size(directory) / ENTRY : 0;
+            long header = nodeWord(directory, 0);
+            return (header & 255) == DIRECTORY ? (int) (header >>> 32) / ENTRY : 0;
         }
 
         int countEntries(int node) {
             int count = 0;
-            for (int i = 0; i < entries(node); i++) {
+            int all = entries(node);
+            for (int i = 0; i < all; i++) {
                 count += nameLength(node, i) == 0 ? 0 : 1;
             }
             return count;
@@ -1560,15 +1551,15 @@ public final class SyncTree {
 
         /** The length of an entry's name, 0 if it is free. */
         int nameLength(int directory, int at) {
-            return rowAt(directory, at / ENTRIES).octet(at % ENTRIES * ENTRY + LENGTH_OCTET);
+            return space.octet(cellOf(pointer(directory, at / ENTRIES)), at % ENTRIES * ENTRY + LENGTH_OCTET);
         }
 
         int nameOctet(int directory, int at, int i) {
-            return rowAt(directory, at / ENTRIES).octet(at % ENTRIES * ENTRY + i);
+            return space.octet(cellOf(pointer(directory, at / ENTRIES)), at % ENTRIES * ENTRY + i);
         }
 
         int nodeAt(int directory, int at) {
-            return rowAt(directory, at / ENTRIES).octet(at % ENTRIES * ENTRY + NODE_OCTET);
+            return space.octet(cellOf(pointer(directory, at / ENTRIES)), at % ENTRIES * ENTRY + NODE_OCTET);
         }
 
         int findLast(int directory, PathText path) {
@@ -1581,25 +1572,21 @@ public final class SyncTree {
                 return NONE;
             }
             int all = entries(directory);
+            int cell = 0;
             for (int i = 0; i < all; i++) {
-                Row row = rowAt(directory, i / ENTRIES);
-                if (isNamed(row, i % ENTRIES * ENTRY, text, start, length)) {
+                int from = i % ENTRIES * ENTRY;
+                if (from == 0) {
+                    cell = cellOf(pointer(directory, i / ENTRIES));
+                }
+                int same = space.octet(cell, from + LENGTH_OCTET) == length ? 0 : NONE;
+                while (same >= 0 && same < length) {
+                    same = space.octet(cell, from + same) == text[start + same] ? same + 1 : NONE;
+                }
+                if (same == length) {
                     return i;
                 }
             }
             return NONE;
-        }
-
-        private boolean isNamed(Row row, int from, byte[] text, int start, int length) {
-            if (row.octet(from + LENGTH_OCTET) != length) {
-                return false;
-            }
-            for (int i = 0; i < length; i++) {
-                if (row.octet(from + i) != text[start + i]) {
-                    return false;
-                }
-            }
-            return true;
         }
 
         /** The first free entry; the one behind all if none is free. */
@@ -1629,17 +1616,13 @@ public final class SyncTree {
 
         void setEntry(int directory, int at, PathText path, int node) {
             int cell = cellOf(pointer(directory, at / ENTRIES));
-            if (cell == 0) {
-                return;
-            }
-            Row row = space.row(cell);
             int from = at % ENTRIES * ENTRY;
             int length = Math.min(path.lastLength, MOST_NAME);
             for (int i = 0; i < length && path.lastStart + i < MOST_PATH; i++) {
-                row.setOctet(from + i, path.bytes[path.lastStart + i]);
+                space.setOctet(cell, from + i, path.bytes[path.lastStart + i]);
             }
-            row.setOctet(from + LENGTH_OCTET, length);
-            row.setOctet(from + NODE_OCTET, node);
+            space.setOctet(cell, from + LENGTH_OCTET, length);
+            space.setOctet(cell, from + NODE_OCTET, node);
             space.touch(cell);
         }
 
@@ -1650,7 +1633,7 @@ public final class SyncTree {
                 space.setWord(cell, at % ENTRIES * ENTRY_WORDS + i, 0);
             }
             for (int last = size(directory) / BYTES - 1; last >= 0; last--) {
-                if (!rowAt(directory, last).isZeroFrom(0)) {
+                if (!space.isZeroFrom(cellOf(pointer(directory, last)), 0)) {
                     return;
                 }
                 drop(directory, last);
@@ -1697,32 +1680,39 @@ public final class SyncTree {
             links = 0;
             int node = 0;
             for (int steps = 0; steps < MOST_STEPS; steps++) {
-                at = skip(at, true);
+                at = endOfSlashes(at);
                 if (at >= end) {
                     return node;
                 }
                 int start = at;
-                at = skip(at, false);
+                at = endOfName(at);
                 int next = look(node, start, at - start);
                 if (next < 0) {
                     return next;
                 }
-                if (tree.kind(next) != LINK || !follow && skip(at, true) >= end) {
+                boolean isLast = endOfSlashes(at) >= end;
+                if (tree.kind(next) != LINK || isLast && !follow) {
                     node = next;
-                } else if (links >= MOST_LINKS || !splice(next)) {
+                } else if (!standIn(next)) {
                     return LOOP;
-                } else {
-                    links++;
-                    node = text[0] == '/' ? 0 : node;
+                } else if (text[0] == '/') {
+                    node = 0;
                 }
             }
             return LOOP;
         }
 
-        /** The first place from one on that has no slash (or has one). */
-        private int skip(int from, boolean slashes) {
-            int i = from;
-            while (i < end && text[i] == '/' == slashes) {
+        private int endOfSlashes(int from) {
+            int i = Math.max(from, 0);
+            while (i < end && text[i] == '/') {
+                i++;
+            }
+            return i;
+        }
+
+        private int endOfName(int from) {
+            int i = Math.max(from, 0);
+            while (i < end && text[i] != '/') {
                 i++;
             }
             return i;
@@ -1742,13 +1732,14 @@ public final class SyncTree {
             return found < 0 ? NONE : tree.nodeAt(node, found);
         }
 
-        /** Puts a link's text ahead of what is left. */
-        private boolean splice(int link) {
+        /** Puts a link's text ahead of what is left; not that of one link too many. */
+        private boolean standIn(int link) {
             int length = tree.size(link);
             int left = end - at;
-            if (length < 1 || left < 0 || length + left > text.length) {
+            if (links >= MOST_LINKS || length < 1 || left < 0 || length + left > text.length) {
                 return false;
             }
+            links++;
             System.arraycopy(text, at, text, length, left);
             for (int i = 0; i < length; i++) {
                 text[i] = (byte) tree.textOctet(link, i);
@@ -1790,11 +1781,12 @@ public final class SyncTree {
         }
     }
 
-    /** The log: transactions that the kept tail is not behind, and META as it was at the kept tail. */
+    /** The log: the transactions that are not ahead of the kept tail, and META as it was there. */
     private static final class Journal {
         private final Disk disk;
         private final Space space;
         private final Tree tree;
+        /** A cell without a row is all zeros. */
         private final Row[] base = new Row[MOST_CELLS];
         private final byte[] marks = new byte[MOST_CELLS];
         private Transaction oldest;
@@ -1818,21 +1810,25 @@ public final class SyncTree {
             this.tree = tree;
         }
 
-        void reset(int newLog) {
+        /** Gives back all rows, as long as it is known how many cells there were. */
+        void forget() {
             dropAll();
-            for (int cell = 0; cell < MOST_CELLS; cell++) {
+            for (int cell = 0; cell < space.cells; cell++) {
                 setBase(cell, null);
             }
+        }
+
+        void reset(int newLog) {
             log = newLog;
             basePosition = 0;
             stamp = 0;
             restart(0);
             Row root = takeRow();
-            root.copyFrom(space.row(FIRST_NODES));
+            space.save(FIRST_NODES, root);
             setBase(FIRST_NODES, root);
         }
 
-        /** All is as behind a transaction that is kept and put to its place. */
+        /** All is as behind a transaction that is kept and in its place. */
         private void restart(int number) {
             latest = number;
             durable = number;
@@ -1866,19 +1862,11 @@ public final class SyncTree {
             if (cell >= 0 && cell < MOST_CELLS) {
                 giveRow(base[cell]);
                 base[cell] = row;
-            } else {
-                giveRow(row);
             }
         }
 
-        /** A cell of META as it was at the kept tail. */
-        void readBase(int cell, Row into) {
-            Row row = cell < 0 || cell >= MOST_CELLS ? null : base[cell];
-            if (row == null) {
-                into.zero();
-            } else {
-                into.copyFrom(row);
-            }
+        Row baseOf(int cell) {
+            return cell < 0 || cell >= MOST_CELLS ? null : base[cell];
         }
 
         private int wrap(int place) {
@@ -1902,7 +1890,7 @@ public final class SyncTree {
             }
             stamp++;
             for (int i = 0; i < size; i++) {
-                disk.put(FIRST_LOG + wrap(position + i), stamp, null);
+                disk.put(FIRST_LOG + wrap(position + i), stamp);
             }
             append(size);
             return size;
@@ -1927,11 +1915,12 @@ public final class SyncTree {
         private void collect(Transaction made) {
             int t = 0;
             int r = 0;
-            for (int cell = MAP; cell < space.cells; cell++) {
+            for (int cell = MAP; cell < space.cells && (t < made.touched.length || r < made.revoked.length); cell++) {
                 if (space.isTouched(cell) && t < made.touched.length) {
+                    Row row = takeRow();
+                    space.save(cell, row);
                     made.touched[t] = cell;
-                    made.rows[t] = takeRow();
-                    made.rows[t].copyFrom(space.row(cell));
+                    made.rows[t] = row;
                     t++;
                 }
                 if (space.isRevoked(cell) && r < made.revoked.length) {
@@ -1949,11 +1938,11 @@ public final class SyncTree {
             fold(keptTail);
             if (applied > tail) {
                 tail = applied;
-                disk.put(HEAD, tail, null);
+                disk.put(HEAD, tail);
             }
         }
 
-        /** Takes transactions into the base, up to a number. */
+        /** Takes the transactions up to a number into the base. */
         private void fold(int number) {
             while (oldest != null && oldest.number <= number) {
                 for (int i = 0; i < oldest.touched.length; i++) {
@@ -1992,20 +1981,16 @@ public final class SyncTree {
             int count = 0;
             for (Transaction t = oldest; t != null && t.number <= durable && count < most; t = t.next) {
                 if (t.number > applied) {
-                    putToPlace(t);
+                    for (int i = 0; i < t.touched.length; i++) {
+                        if (!isRevokedLater(t, t.touched[i])) {
+                            disk.put(space.numberOf(t.touched[i]), 0);
+                        }
+                    }
                     applied = t.number;
                     count++;
                 }
             }
             return count;
-        }
-
-        private void putToPlace(Transaction t) {
-            for (int i = 0; i < t.touched.length; i++) {
-                if (!isRevokedLater(t, t.touched[i])) {
-                    disk.put(space.numberOf(t.touched[i]), 0, null);
-                }
-            }
         }
 
         private boolean isRevokedLater(Transaction t, int cell) {
@@ -2017,7 +2002,7 @@ public final class SyncTree {
             return false;
         }
 
-        /** Turns power on and replays the log: how many transactions were whole. Until its acts are done it takes nothing for kept. */
+        /** Turns power on and replays the log: how many were whole. Until all acts are done the base stays: they may be lost. */
         int replay() {
             disk.settle();
             int from = disk.tagOf(HEAD);
@@ -2025,11 +2010,11 @@ public final class SyncTree {
             markReplayed(from, to);
             for (int cell = MAP; cell < space.cells; cell++) {
                 if (marks[cell] != 0) {
-                    disk.put(space.numberOf(cell), 0, null);
+                    disk.put(space.numberOf(cell), 0);
                 }
             }
             disk.flushCache();
-            disk.put(HEAD, to, null);
+            disk.put(HEAD, to);
             disk.flushCache();
             fold(to);
             dropAll();
@@ -2063,16 +2048,16 @@ public final class SyncTree {
             Arrays.fill(marks, (byte) 0);
             for (Transaction t = oldest; t != null && t.number <= to; t = t.next) {
                 if (t.number > from) {
-                    setMarks(t.touched, (byte) 1);
-                    setMarks(t.revoked, (byte) 0);
+                    setMarks(t.touched, 1);
+                    setMarks(t.revoked, 0);
                 }
             }
         }
 
-        private void setMarks(int[] list, byte value) {
+        private void setMarks(int[] list, int value) {
             for (int i = 0; i < list.length; i++) {
                 if (list[i] >= 0 && list[i] < MOST_CELLS) {
-                    marks[list[i]] = value;
+                    marks[list[i]] = (byte) value;
                 }
             }
         }
@@ -2104,20 +2089,20 @@ public final class SyncTree {
             this.journal = journal;
         }
 
-        void load() {
+        void loadAll() {
             for (int cell = MAP; cell < FIRST_ROOM; cell++) {
-                journal.readBase(cell, space.row(cell));
+                space.load(cell, journal.baseOf(cell));
             }
             space.readMap();
             for (int node = 0; node < NODES; node++) {
                 int kind = tree.kind(node);
                 if (kind == FILE || kind == DIRECTORY) {
-                    loadBlocks(node);
+                    loadNode(node);
                 }
             }
         }
 
-        private void loadBlocks(int node) {
+        private void loadNode(int node) {
             for (int i = 0; i < Tree.OWN; i++) {
                 loadBlock(node, tree.nodeWord(node, Tree.OWN_WORD + i));
             }
@@ -2125,9 +2110,8 @@ public final class SyncTree {
             long top = tree.nodeWord(node, Tree.DOUBLE_WORD);
             if (top != 0) {
                 loadMeta(node, top);
-                Row row = space.row(Tree.cellOf(top));
                 for (int i = 0; i < Tree.FANOUT; i++) {
-                    loadTable(node, row.word(i));
+                    loadTable(node, space.word(Tree.cellOf(top), i));
                 }
             }
         }
@@ -2137,9 +2121,8 @@ public final class SyncTree {
                 return;
             }
             loadMeta(node, pointer);
-            Row row = space.row(Tree.cellOf(pointer));
             for (int i = 0; i < Tree.FANOUT; i++) {
-                loadBlock(node, row.word(i));
+                loadBlock(node, space.word(Tree.cellOf(pointer), i));
             }
         }
 
@@ -2154,13 +2137,13 @@ public final class SyncTree {
             int cell = Tree.cellOf(pointer);
             int birth = Tree.birthOf(pointer);
             space.adopt(cell, birth, node);
-            disk.readKept(space.numberOf(cell), birth, space.row(cell));
+            space.load(cell, disk.keptSince(space.numberOf(cell), birth));
         }
 
         private void loadMeta(int node, long pointer) {
             int cell = Tree.cellOf(pointer);
             space.adopt(cell, Tree.birthOf(pointer), node);
-            journal.readBase(cell, space.row(cell));
+            space.load(cell, journal.baseOf(cell));
         }
     }
 }

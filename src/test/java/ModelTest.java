@@ -6,10 +6,6 @@ public final class ModelTest {
     private static final String[] ODD = {".", "..", "...", "1234567890123456789012345678", "12345678901234567890123456789", ""};
     private static final String[] TEXTS = {"a", "b", "c", "/d", "../e", "dir1", "/dir2/", "./deep", "/", "..", "h/f", "g"};
 
-    interface Call {
-        long on(Object x);
-    }
-
     private final Random random;
     private final SyncTree real = new SyncTree();
     private final PlainModel plain = new PlainModel();
@@ -20,10 +16,24 @@ public final class ModelTest {
     private int wrong;
     private int thrown;
     private int recovered;
+    /** How often of 200 calls one is on the tree, on data, on the disk, or a crash: another mix for each seed. */
+    private final int treeShare;
+    private final int dataShare;
+    private final int diskShare;
+    private final int crashShare;
+    private final boolean manyNames;
+    /** Whether the disk is hardly ever flushed, so that its cache runs over. */
+    private final boolean lazy;
 
     private ModelTest(long seed) {
         this.seed = seed;
         random = new Random(seed);
+        treeShare = 20 + random.nextInt(100);
+        dataShare = 20 + random.nextInt(100);
+        diskShare = 5 + random.nextInt(60);
+        crashShare = random.nextInt(4);
+        manyNames = random.nextInt(3) == 0;
+        lazy = random.nextInt(3) == 0;
     }
 
     private interface Answer {
@@ -71,14 +81,40 @@ public final class ModelTest {
         same("path(" + which + ", " + path + ")", () -> real.path(which, n), () -> plain.path(which, n));
     }
 
+    /** Mostly a path that is there, or a new name beside it. */
     private String randomPath() {
+        if (random.nextInt(3) != 0) {
+            StringBuilder s = new StringBuilder();
+            int dir = 0;
+            for (int depth = 0; depth < 5 && s.length() < 60; depth++) {
+                int all = plain.nodes[dir].entryNames.size();
+                int i = all == 0 ? 0 : random.nextInt(all);
+                if (all == 0 || plain.nodes[dir].entryNames.get(i) == null) {
+                    break;
+                }
+                s.append('/').append(plain.nodes[dir].entryNames.get(i));
+                dir = plain.nodes[dir].entryNodes.get(i);
+                if (plain.nodes[dir].kind != 2 || random.nextInt(3) == 0) {
+                    return s.toString();
+                }
+            }
+            return s.append('/').append(newName()).toString();
+        }
+        return wildPath();
+    }
+
+    private String newName() {
+        return manyNames ? "n" + random.nextInt(1000) : NAMES[random.nextInt(NAMES.length)];
+    }
+
+    private String wildPath() {
         StringBuilder s = new StringBuilder();
         int names = 1 + random.nextInt(random.nextInt(4) + 1);
         for (int i = 0; i < names; i++) {
             if (i > 0 || random.nextInt(6) == 0) {
                 s.append(random.nextInt(12) == 0 ? "//" : "/");
             }
-            s.append(random.nextInt(25) == 0 ? ODD[random.nextInt(ODD.length)] : NAMES[random.nextInt(NAMES.length)]);
+            s.append(random.nextInt(25) == 0 ? ODD[random.nextInt(ODD.length)] : newName());
         }
         if (random.nextInt(20) == 0) {
             s.append('/');
@@ -87,7 +123,13 @@ public final class ModelTest {
     }
 
     private int randomHandle() {
-        return random.nextInt(30) == 0 ? random.nextInt(20) - 2 : random.nextInt(3);
+        int h = random.nextInt(16);
+        for (int i = 0; i < 16 && random.nextInt(60) != 0; i++) {
+            if (plain.handles[(h + i) % 16] >= 0) {
+                return (h + i) % 16;
+            }
+        }
+        return random.nextInt(20) - 2;
     }
 
     private int randomAt() {
@@ -95,14 +137,18 @@ public final class ModelTest {
             case 0: return random.nextInt(272384 + 100);
             case 1: return 256 * random.nextInt(60);
             case 2: return random.nextInt(12000);
-            case 3: return random.nextInt(40) == 0 ? -1 : 10240 + 8192 * random.nextInt(32);
+            case 3: return random.nextInt(20) == 0 ? -1 : 10240 + 8192 * random.nextInt(32);
             default: return random.nextInt(2500);
         }
     }
 
     private void formatAnew() {
-        log = 40 + (random.nextInt(4) == 0 ? random.nextInt(200) : random.nextInt(3));
+        log = 40 + (random.nextInt(4) == 0 ? random.nextInt(1000) : random.nextInt(3));
         room = 16 + (random.nextInt(3) == 0 ? random.nextInt(1985) : random.nextInt(100));
+        if (random.nextInt(lazy ? 2 : 20) == 0) {
+            log = 4096;
+            room = 2000;
+        }
         same("format(" + log + ", " + room + ")", () -> real.format(log, room), () -> plain.format(log, room));
     }
 
@@ -111,6 +157,10 @@ public final class ModelTest {
             setPath(0, randomPath());
         }
         int what = random.nextInt(30);
+        if (manyNames && random.nextInt(8) != 0) {
+            link(plain.nodes[0].entryNames.size());
+            return;
+        }
         if (what < 12) {
             same("create()", real::create, () -> plain.make(1));
         } else if (what < 15) {
@@ -131,6 +181,18 @@ public final class ModelTest {
         }
     }
 
+    /** One more name, mostly in the root, for something that has names already. */
+    private void link(int entries) {
+        String there = entries == 0 ? null : plain.nodes[0].entryNames.get(random.nextInt(entries));
+        if (there == null) {
+            same("create()", real::create, () -> plain.make(1));
+            return;
+        }
+        setPath(0, random.nextInt(20) == 0 ? randomPath() : newName());
+        setPath(1, there);
+        same("link()", real::link, plain::link);
+    }
+
     private void data() {
         int h = randomHandle();
         int at = randomAt();
@@ -143,7 +205,7 @@ public final class ModelTest {
         } else if (what < 6) {
             same("close(" + h + ")", () -> real.close(h), () -> plain.close(h));
         } else if (what < 10) {
-            int n = random.nextInt(15) == 0 ? random.nextInt(18000) - 100 : random.nextInt(random.nextInt(1500) + 1);
+            int n = random.nextInt(lazy ? 3 : 15) == 0 ? random.nextInt(18000) - 100 : random.nextInt(random.nextInt(1500) + 1);
             int v = random.nextInt(40) == 0 ? random.nextInt(1000) - 300 : random.nextInt(256);
             same("fill(" + h + ", " + at + ", " + n + ", " + v + ")", () -> real.fill(h, at, n, v), () -> plain.fill(h, at, n, v));
         } else if (what < 14) {
@@ -181,8 +243,8 @@ public final class ModelTest {
 
     private void disk() {
         int h = randomHandle();
-        int n = random.nextInt(12) == 0 ? random.nextInt(100) - 20 : random.nextInt(6);
-        switch (random.nextInt(7)) {
+        int n = random.nextInt(lazy ? 3 : 12) == 0 ? random.nextInt(200) - 20 : random.nextInt(6);
+        switch (lazy && random.nextInt(20) != 0 ? 3 + random.nextInt(3) : random.nextInt(7)) {
             case 0: same("fsync(" + h + ")", () -> real.fsync(h), () -> plain.fsync(h)); break;
             case 1: same("fdatasync(" + h + ")", () -> real.fdatasync(h), () -> plain.fdatasync(h)); break;
             case 2: same("sync()", real::sync, plain::sync); break;
@@ -190,8 +252,8 @@ public final class ModelTest {
             case 4: same("writeBack(" + n + ")", () -> real.writeBack(n), () -> plain.writeBack(n)); break;
             case 5: same("apply(" + n + ")", () -> real.apply(n), () -> plain.apply(n)); break;
             default:
-                if (random.nextInt(3) == 0) {
-                    int c = random.nextInt(60) - 3;
+                if (random.nextInt(5) == 0) {
+                    int c = random.nextInt(random.nextInt(300) + 5) - 3;
                     same("cut(" + c + ")", () -> real.cut(c), () -> plain.cut(c));
                 } else {
                     same("post()", real::post, plain::post);
@@ -274,22 +336,26 @@ public final class ModelTest {
                     compareTree(0, "");
                 }
             } else {
-                int what = random.nextInt(200);
-                if (what < 80) {
-                    tree();
-                } else if (what < 140) {
-                    data();
-                } else if (what < 160) {
-                    look();
-                } else if (what < 195) {
-                    disk();
-                } else if (what < 199) {
-                    same("crash()", real::crash, plain::crash);
-                } else if (random.nextInt(10) == 0) {
-                    formatAnew();
-                }
+                step();
             }
             compareTotals();
+        }
+    }
+
+    private void step() {
+        int what = random.nextInt(treeShare + dataShare + diskShare + 20);
+        if (random.nextInt(200) < crashShare) {
+            same("crash()", real::crash, plain::crash);
+        } else if (random.nextInt(1000) == 0) {
+            formatAnew();
+        } else if (what < treeShare) {
+            tree();
+        } else if (what < treeShare + dataShare) {
+            data();
+        } else if (what < treeShare + dataShare + diskShare) {
+            disk();
+        } else {
+            look();
         }
     }
 
@@ -301,7 +367,7 @@ public final class ModelTest {
         int recovered = 0;
         for (int seed = from; seed <= to && wrong < 3; seed++) {
             ModelTest t = new ModelTest(seed);
-            t.run(500);
+            t.run(seed % 10 == 0 ? 2000 : 500);
             wrong += t.wrong == 0 ? 0 : 1;
             thrown += t.thrown;
             recovered += t.recovered;
