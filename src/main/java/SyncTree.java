@@ -66,7 +66,7 @@ public final class SyncTree {
         journal.forget();
         disk.reset(FIRST_LOG + log + room);
         space.reset(log, room);
-        tree.reset();
+        tree.setUp(0, DIRECTORY, 0);
         journal.reset(log);
         tape.useUp();
         first.forget();
@@ -1188,13 +1188,6 @@ public final class SyncTree {
         Tree(Space space) {
             this.space = space;
             words = space.words;
-        }
-
-        /** The root alone; it is there without having been touched. */
-        void reset() {
-            setUp(0, DIRECTORY, 0);
-            forgetChanges();
-            space.emptyGroup(1);
         }
 
         static int cellOf(long pointer) {

@@ -476,6 +476,13 @@ public final class DataPromisesTest {
         p.is("a hole gets a block", 1, p.x.fdatasync(f));
         p.totals(12, 4);
         p.is("no handle", BAD, p.x.fdatasync(9));
+        p.x.truncate(f, 10);
+        p.x.close(f);
+        p.at("f").x.unlink();
+        p.is("a new file in the same node", 1, p.at("h").x.create());
+        p.is("its handle", f, p.x.open());
+        p.is("is not changed", 0, p.x.fdatasync(f));
+        p.totals(12, 4);
         p.x.crash();
         p.dies("while power is off", () -> p.x.fdatasync(f));
     }
