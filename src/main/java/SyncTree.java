@@ -174,74 +174,65 @@ public final class SyncTree {
 
     public int unlink() throws IllegalStateException {
         journal.postAhead();
-        int directory = walker.walkAhead(first);
-        if (directory < 0) {
-            return directory;
-        }
-        int at = entryOfLast(directory, first);
+        int at = entryOfLast(first);
         if (at < 0) {
             return at;
         }
-        int node = tree.nodeAt(directory, at);
+        int node = tree.nodeAt(first.directory, at);
         if (tree.kind(node) == DIRECTORY) {
             return A_DIRECTORY;
         }
         int left = tree.names(node) - 1;
-        tree.removeEntry(directory, at);
+        tree.removeEntry(first.directory, at);
         loseName(node);
         return left;
     }
 
     public int rmdir() throws IllegalStateException {
         journal.postAhead();
-        int directory = walker.walkAhead(first);
-        if (directory < 0) {
-            return directory;
-        }
-        int at = entryOfLast(directory, first);
+        int at = entryOfLast(first);
         if (at < 0) {
             return at;
         }
-        int node = tree.nodeAt(directory, at);
+        int node = tree.nodeAt(first.directory, at);
         if (tree.kind(node) != DIRECTORY) {
             return NO_DIRECTORY;
         }
         if (tree.countEntries(node) != 0) {
             return NOT_EMPTY;
         }
-        tree.removeEntry(directory, at);
+        tree.removeEntry(first.directory, at);
         tree.discard(node);
         return node;
     }
 
-    /** The entry of a path's last name in a directory, or LONG or NONE. */
-    private int entryOfLast(int directory, PathText path) {
+    /** Walks to a path's last name: its entry in the directory that the path notes, or why there is none. */
+    private int entryOfLast(PathText path) {
+        path.directory = walker.walkAhead(path);
+        if (path.directory < 0) {
+            return path.directory;
+        }
         if (path.lastLength > MOST_NAME) {
             return LONG;
         }
-        int at = tree.findLast(directory, path);
+        int at = tree.findLast(path.directory, path);
         return at < 0 ? NONE : at;
     }
 
     public int rename() throws IllegalStateException {
         journal.postAhead();
-        int from = walker.walkAhead(first);
-        if (from < 0) {
-            return from;
-        }
-        int old = entryOfLast(from, first);
+        int old = entryOfLast(first);
         if (old < 0) {
             return old;
         }
-        int to = walker.walkAhead(second);
-        if (to < 0) {
-            return to;
+        // it may be that nothing is there, but the walk to it must not fail
+        int there = entryOfLast(second);
+        if (there < 0 && (there != NONE || second.directory < 0)) {
+            return there;
         }
-        if (second.lastLength > MOST_NAME) {
-            return LONG;
-        }
+        int from = first.directory;
+        int to = second.directory;
         int node = tree.nodeAt(from, old);
-        int there = tree.findLast(to, second);
         int replaced = there < 0 ? NONE : tree.nodeAt(to, there);
         if (replaced == node) {
             return node;
@@ -660,6 +651,8 @@ public final class SyncTree {
         private int length;
         private int lastStart;
         private int lastLength;
+        /** In which its last name was looked for. */
+        private int directory;
 
         void forget() {
             length = 0;
