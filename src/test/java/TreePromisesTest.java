@@ -187,7 +187,9 @@ public final class TreePromisesTest {
         p.is("28", 3, p.at("d/" + NAME_28 + "//").x.create());
         p.is("27 is another", 4, p.at("/d//" + NAME_28.substring(1)).x.create());
         p.is("dots enough", 5, p.at("...").x.create());
-        p.totals(8, 58);
+        p.is("a dot ahead", 6, p.at(".a").x.create());
+        p.is("a dot behind", 7, p.at("d/../a.").x.create());
+        p.totals(8, 56);
         p.x.crash();
         p.dies("while power is off", p.x::create);
     }
