@@ -1,3 +1,7 @@
+import java.lang.reflect.InvocationTargetException;
+import java.lang.reflect.Method;
+import java.lang.reflect.Modifier;
+
 /** One object under test, with short ways to set paths and the tape, and to say which answer is due. */
 final class Probe {
     interface Call {
@@ -5,17 +9,52 @@ final class Probe {
     }
 
     private static int wrong;
+    private static int tests;
 
     final SyncTree x = new SyncTree();
-    private final int promise;
+    private final String promise;
 
     Probe(int promise) {
-        this.promise = promise;
+        this.promise = "promise " + promise;
     }
 
     Probe(int promise, int log, int room) {
         this(promise);
         is("format", 34 + log + room, x.format(log, room));
+    }
+
+    /** A test of one sentence of the document. */
+    Probe(int promise, String sentence) {
+        this.promise = "promise " + promise + " '" + sentence + "'";
+    }
+
+    Probe(int promise, String sentence, int log, int room) {
+        this(promise, sentence);
+        is("format", 34 + log + room, x.format(log, room));
+    }
+
+    /** Runs every static method of a class that takes nothing, and ends with exit code 1 if an answer was wrong. */
+    static void runAll(Class<?> tests) throws Exception {
+        for (Method m : tests.getDeclaredMethods()) {
+            if (Modifier.isStatic(m.getModifiers()) && m.getParameterCount() == 0 && m.getReturnType() == void.class && !m.isSynthetic()) {
+                m.setAccessible(true);
+                run(m);
+            }
+        }
+        System.out.println(Probe.tests + " tests, " + wrong + " answers are not as due");
+        if (wrong > 0) {
+            System.exit(1);
+        }
+    }
+
+    private static void run(Method m) throws Exception {
+        tests++;
+        try {
+            m.invoke(null);
+        } catch (InvocationTargetException e) {
+            wrong++;
+            System.out.println(m.getName() + " threw " + e.getCause());
+        }
     }
 
     static int wrong() {
@@ -25,7 +64,7 @@ final class Probe {
     void is(String what, long due, long got) {
         if (due != got) {
             wrong++;
-            System.out.println("promise " + promise + ": " + what + " answered " + got + ", due is " + due);
+            System.out.println(promise + ": " + what + " answered " + got + ", due is " + due);
         }
     }
 
@@ -33,7 +72,7 @@ final class Probe {
         try {
             long got = call.get();
             wrong++;
-            System.out.println("promise " + promise + ": " + what + " answered " + got + ", due is IllegalStateException");
+            System.out.println(promise + ": " + what + " answered " + got + ", due is IllegalStateException");
         } catch (IllegalStateException e) {
             // it is due
         }
