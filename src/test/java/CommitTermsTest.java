@@ -727,6 +727,20 @@ public final class CommitTermsTest {
         changed(p, "nor now", false);
     }
 
+    /** What another file did in the same node ahead of it is not the new one's. */
+    private static void newFileInAFreedNode() {
+        Probe p = new Probe(25, "A FILE is CHANGED when .. its SIZE was set to another one, or it got or lost a BLOCK", 60, 60);
+        p.file("f");
+        p.x.fill(0, 0, 300, 1);
+        p.x.sync();
+        p.x.truncate(0, 5);
+        p.x.unlink();
+        p.x.close(0);
+        p.is("the same NODE", 1, p.at("g").x.create());
+        p.is("open", 0, p.x.open());
+        changed(p, "a new FILE", false);
+    }
+
     // ---- RECOVERY ----
 
     private static void headTellsATail() {
@@ -746,6 +760,130 @@ public final class CommitTermsTest {
             p.is("size", 5, p.at("f").x.info(1, true));
             p.totals(12, 2, 2, 2, 2, 2, 40, 6);
         }
+    }
+
+    private static void replaysBehindTheTailAlone() {
+        String sentence = "what is kept of the HEAD tells a TAIL; TRANSACTIONS from there on .. are WHOLE";
+        for (int k = 0; k < 2; k++) {
+            Probe p = new Probe(34, sentence, 40, 60);
+            p.file("f");
+            p.x.sync();
+            p.x.apply(1);
+            p.x.sync();
+            p.x.truncate(0, 5);
+            p.x.post();
+            p.x.crash();
+            p.x.shuffle(-1);
+            p.x.choose(0, k);
+            int acts = p.x.total(2);
+            p.x.recover();
+            // the second has the NODE alone, the first also the MAP and the root's BLOCK
+            p.is("ACTS", acts + (k == 0 ? 3 : 1) + 3, p.x.total(2));
+        }
+    }
+
+    private static void laterRecoveryWritesItsOwn() {
+        Probe p = new Probe(34, "Each BLOCK that these TOUCHED", 40, 60);
+        p.at("a").x.create();
+        p.x.sync();
+        p.x.crash();
+        p.is("one", 1, p.x.recover());
+        p.at("a").x.open();
+        p.x.truncate(0, 1);
+        p.x.sync();
+        int acts = p.x.total(2);
+        p.x.crash();
+        p.is("one", 1, p.x.recover());
+        p.is("the NODE; FLUSH, HEAD, FLUSH", acts + 4, p.x.total(2));
+    }
+
+    private static void lostOnesNeverCount() {
+        Probe p = new Probe(34, "the tree is the one that the last WHOLE one POSTED", 40, 60);
+        p.at("a").x.create();
+        p.x.sync();
+        p.at("b").x.create();
+        p.x.post();
+        p.at("c").x.create();
+        p.x.post();
+        p.x.crash();
+        p.is("both are lost", 1, p.x.recover());
+        p.totals(12, 1);
+        p.at("d").x.create();
+        p.is("post", 3, p.x.post());
+        p.is("the next number again", 2, p.x.total(12));
+        p.x.crash();
+        p.x.shuffle(-1);
+        p.is("the new one", 1, p.x.recover());
+        p.is("b", NONE, p.at("b").x.info(3, true));
+        p.is("d", 2, p.at("d").x.info(3, true));
+        p.totals(12, 2, 2, 2, 2, 2, 40, 7);
+    }
+
+    /** The places of a lost transaction are kept, but for one; the new one in the same places lacks just that one. */
+    private static void leftOverPlacesAreNotWhole() {
+        Probe p = new Probe(34, "as long as all BLOCKS of the LOG that each wrote are kept", 40, 60);
+        p.at("a").x.create();
+        p.x.sync();
+        p.at("b").x.create();
+        p.x.post();
+        p.x.crash();
+        p.x.shuffle(-1);
+        p.x.choose(40, 0);
+        p.is("a alone", 1, p.x.recover());
+        p.at("c").x.create();
+        p.x.post();
+        p.x.crash();
+        p.is("what the new one wrote", 1, p.x.choose(40, 1));
+        p.is("is only one of its three", 0, p.x.recover());
+        p.is("b", NONE, p.at("b").x.info(3, true));
+        p.is("c", NONE, p.at("c").x.info(3, true));
+    }
+
+    /** More blocks than a word of the map can tell. */
+    private static void mapOfManyBlocks() {
+        Probe p = new Probe(34, "Then the tree is the one that the last WHOLE one POSTED", 4096, 2000);
+        for (int h = 0; h < 4; h++) {
+            p.file("f" + h);
+            p.x.fill(h, 0, 16384, 1 + h);
+        }
+        // 64 each, SINGLE, DOUBLE and a LEAF; the root has one: 269 are got
+        p.totals(5, 2000 - 1 - 4 * 67);
+        p.x.truncate(1, 0);
+        p.x.sync();
+        p.x.crash();
+        p.is("recover", 1, p.x.recover());
+        p.totals(5, 2000 - 1 - 3 * 67, 0);
+        int h = p.at("f1").x.open();
+        p.x.fill(h, 0, 16384, 9);
+        p.x.fill(h, 16384, 256, 9);
+        p.is("the lowest that is free", 34 + 4096 + 1 + 67, p.x.blockOf(h, 0));
+        p.is("behind all", 34 + 4096 + 1 + 4 * 67, p.x.blockOf(h, 64));
+        int g = p.at("f3").x.open();
+        p.is("f3's are its own", 4, p.x.byteAt(g, 16383));
+    }
+
+    private static void lostChangesInPointerBlocks() {
+        Probe p = new Probe(34, "Then the tree is the one that the last WHOLE one POSTED", 100, 100);
+        p.file("f");
+        p.x.fill(0, 9 * 256, 1, 1);
+        p.x.fill(0, 41 * 256, 1, 1);
+        p.x.truncate(0, MOST);
+        p.x.sync();
+        int[] at = {8, 40, 72, 1063};
+        for (int i : at) {
+            p.x.fill(0, i * 256, 1, 2);
+        }
+        p.is("SINGLE, DOUBLE and three LEAVES", 5, p.x.infoOf(0, 5));
+        p.x.crash();
+        p.is("recover", 1, p.x.recover());
+        p.at("f").x.open();
+        for (int i : at) {
+            p.is("INDEX " + i, 0, p.x.blockOf(0, i));
+        }
+        p.is("9", 1, p.x.byteAt(0, 9 * 256));
+        p.is("41", 1, p.x.byteAt(0, 41 * 256));
+        p.is("SINGLE, DOUBLE and one LEAF", 3, p.x.infoOf(0, 5));
+        p.is("two BLOCKS", 2, p.x.infoOf(0, 4));
     }
 
     private static void anyBlockThatLacks() {

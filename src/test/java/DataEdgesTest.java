@@ -385,6 +385,7 @@ public final class DataEdgesTest {
                 p.is("infoOf(" + h + ", " + what + ")", BAD, p.x.infoOf(h, what));
             }
         }
+        p.is("the last what", 0, p.x.infoOf(0, 6));
         p.x.unlink();
         p.is("without NAMES", 0, p.x.infoOf(0, 2));
         p.is("kind", 1, p.x.infoOf(0, 0));

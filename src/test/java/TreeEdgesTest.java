@@ -114,6 +114,17 @@ public final class TreeEdgesTest {
         p.is("nor in a BLOCK", 3000L << 32, p.x.sum(0, 0, 3000));
     }
 
+    private static void formatEmptiesThePaths() {
+        Probe p = new Probe(2, "PATHS and the TAPE empty");
+        p.at("a").to("b").x.format(40, 16);
+        p.is("no last NAME", BAD, p.x.create());
+        p.is("no TEXT", BAD, p.x.symlink());
+        p.at("a").to("b").x.create();
+        p.x.format(40, 16);
+        p.at("a").x.create();
+        p.is("no last NAME to rename to", BAD, p.x.rename());
+    }
+
     private static void formatWhilePowerIsOff() {
         Probe p = new Probe(2, "power on and not to be cut (Also while power is off.)");
         some(p);
@@ -137,6 +148,7 @@ public final class TreeEdgesTest {
         Probe p = new Probe(2, "an empty tree, nothing in the CACHE, TAIL and HEAD POSITION 0, TRANSACTIONS from 1 on");
         p.x.format(40, 60);
         p.file("f");
+        p.at("second").x.create();
         p.x.sync();
         p.x.apply(1);
         p.x.sync();
@@ -147,6 +159,7 @@ public final class TreeEdgesTest {
         p.x.crash();
         p.is("no TRANSACTION", 0, p.x.recover());
         p.is("no tree", 0, p.at("").x.info(1, true));
+        p.totals(5, 60, 0, 0, 63, 0, 0, 0);
         p.totals(12, 0, 0, 0, 0, 0, 40, 0);
         p.is("the first NODE", 1, p.at("g").x.create());
         p.is("post", 4, p.x.post());

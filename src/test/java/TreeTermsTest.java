@@ -223,6 +223,34 @@ public final class TreeTermsTest {
         p.is("freed", 0, p.x.total(7));
     }
 
+    private static void dirtyByWrite() {
+        Probe p = new Probe(14, "It is DIRTY when bytes in it were set since it was got, or last written", 40, 60);
+        int h = p.file("f");
+        p.tape("ab").x.write(h, 255, 2);
+        p.totals(7, 2);
+        p.is("both", 2, p.x.sync());
+        p.tape("ab").x.write(h, 254, 2);
+        p.is("up to the end of the first", 1, p.x.total(7));
+        p.x.sync();
+        p.tape("ab").x.write(h, 256, 1);
+        p.is("the second alone", 1, p.x.total(7));
+        p.is("is written", 1, p.x.fsync(h));
+        p.is("76", 0, p.x.total(7));
+    }
+
+    private static void dirtyByFillUpToAnEnd() {
+        Probe p = new Probe(15, "It is DIRTY when bytes in it were set", 40, 60);
+        int h = p.file("f");
+        p.x.fill(h, 0, 768, 1);
+        p.x.sync();
+        p.x.fill(h, 256, 256, 2);
+        p.is("neither the one ahead nor the one behind", 1, p.x.total(7));
+        p.x.writeBack(1);
+        p.is("76", 1, p.x.versions(76));
+        p.x.fill(h, 255, 258, 2);
+        p.is("all three", 3, p.x.total(7));
+    }
+
     private static void textOf80() {
         Probe p = new Probe(7, "a LINK its TEXT (1 .. 80 bytes, in its NODE)", 40, 60);
         p.is("pad", 1, p.at("pad").x.create());
@@ -473,6 +501,20 @@ public final class TreeTermsTest {
         }
     }
 
+    private static void lastNamesAtTheEndOfALongPath() {
+        Probe p = new Probe(5, "of the PATH's last name: BAD, if there is none, or it is . or ..", 40, 60);
+        p.is(".", BAD, p.at(Probe.times("/", 119) + ".").x.create());
+        p.is("..", BAD, p.at(Probe.times("/", 118) + "..").x.create());
+        p.is("...", 1, p.at(Probe.times("/", 117) + "...").x.create());
+        p.is("a", 2, p.at(Probe.times("/", 119) + "a").x.create());
+        p.is("a again", THERE, p.x.create());
+        p.is("28", 3, p.at(Probe.times("/", 92) + NAME_28).x.create());
+        p.is("28 again", THERE, p.x.create());
+        p.is("its last byte", 'n', p.at("").x.entry(2, 27));
+        p.is("29", LONG, p.at(Probe.times("/", 91) + NAME_29).x.create());
+        p.is("unlink", 0, p.at(Probe.times("/", 119) + "a").x.unlink());
+    }
+
     private static void lastNamesInAFile() {
         Probe p = paths(5, "NO DIRECTORY, if what it is looked for in is none");
         p.at("l").to("d/e/f").x.symlink();
@@ -578,6 +620,24 @@ public final class TreeTermsTest {
         }
     }
 
+    /** Two indexes, of which the second is the first in a pointer block. */
+    private static void justEnoughBlocksOverAnEdge() {
+        int[][] needs = {{7, 3}, {39, 5}, {71, 5}};
+        for (int i = 0; i < needs.length; i++) {
+            for (int lack = 0; lack < 2; lack++) {
+                Probe p = new Probe(14, "INDEX by INDEX, for each first DOUBLE or SINGLE, then the LEAF, if they are needed and not there", 40, 20);
+                int f = p.file("f");
+                int g = p.file("g");
+                int left = needs[i][1] - lack;
+                // the root has one; 18 - left of f and SINGLE leave so many
+                p.x.fill(f, 0, (18 - left) * 256, 1);
+                p.totals(5, left);
+                p.is("INDEX " + needs[i][0] + " and the next with " + left, lack == 0 ? 2 : FULL, p.tape("ab").x.write(g, needs[i][0] * 256 + 255, 2));
+                p.totals(5, lack == 0 ? 0 : left);
+            }
+        }
+    }
+
     /** All but so many blocks of a room of 16 are taken; d is an empty directory, the root has 7 entries. */
     private static Probe nearlyFull(int promise, String sentence, int left) {
         Probe p = new Probe(promise, sentence, 100, 16);
@@ -643,6 +703,31 @@ public final class TreeTermsTest {
         p.is("one byte", 1, p.x.total(7));
         p.x.truncate(h, 256);
         p.is("byte 255", 0, p.x.byteAt(h, 255));
+    }
+
+    /** One byte of a block is set, and the file is cut at or ahead of it, or behind it. */
+    private static void oneByteThatIsNotZero() {
+        int[] set = {0, 1, 7, 8, 9, 100, 247, 248, 254, 255};
+        for (int at : set) {
+            Probe p = new Probe(16, "if it has the BLOCK and one of them is not; it is DIRTY then", 60, 60);
+            int h = p.file("f");
+            for (int size = 1; size <= at + 1 && size < 256; size += 5) {
+                p.x.truncate(h, 0);
+                p.x.fill(h, 0, 256, 0);
+                p.x.fill(h, at, 1, 1);
+                p.x.sync();
+                p.x.truncate(h, size);
+                p.is("byte " + at + ", SIZE " + size, at >= size ? 1 : 0, p.x.total(7));
+            }
+            p.x.truncate(h, 0);
+            p.x.fill(h, 0, 256, 0);
+            p.x.fill(h, at, 1, 1);
+            p.x.sync();
+            p.x.truncate(h, at + 1 > 255 ? 255 : at + 1);
+            p.is("byte " + at + " stays", at == 255 ? 1 : 0, p.x.total(7));
+            p.x.truncate(h, Math.max(at, 1));
+            p.is("byte " + at + " goes", at == 0 ? 0 : 1, p.x.total(7));
+        }
     }
 
     /** A size that was posted, with bytes behind it on the disk: they come when it was not written again. */
