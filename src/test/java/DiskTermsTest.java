@@ -277,6 +277,17 @@ public final class DiskTermsTest {
         }
     }
 
+    private static void cutStaysWhilePowerIsOff() {
+        Probe p = new Probe(31, "While power is off all calls but those told do the same, and change nothing", 40, 16);
+        p.x.crash();
+        p.x.cut(3);
+        p.dies("crash", p.x::crash);
+        p.dies("sync", p.x::sync);
+        p.totals(4, 3);
+        p.is("three ACTS", 0, p.x.recover());
+        p.totals(4, 0);
+    }
+
     private static void choicesAreNoneAtFirst() {
         Probe p = threeVersions(32, "a CHOICE is 0 (what is kept) or k, 0 at first");
         p.x.crash();
