@@ -114,6 +114,32 @@ public final class TreeEdgesTest {
         p.is("nor in a BLOCK", 3000L << 32, p.x.sum(0, 0, 3000));
     }
 
+    /** What was dirty, touched, revoked or retired behind the end of a smaller room is not there in a larger one again. */
+    private static void formatSmallerAndLarger() {
+        Probe p = new Probe(2, "All anew", 60, 100);
+        p.file("f");
+        p.x.fill(0, 0, 50 * 256, 7);
+        p.x.sync();
+        p.x.truncate(0, 45 * 256);
+        p.x.fill(0, 70 * 256, 10 * 256, 8);
+        p.x.fill(0, 20 * 256, 10 * 256, 9);
+        p.x.truncate(0, 72 * 256);
+        p.is("above the 16th are DIRTY, TOUCHED, REVOKED and RETIRED ones", 1, p.x.total(6) > 5 && p.x.total(7) > 5 && p.x.total(11) > 0 ? 1 : 0);
+        p.is("smaller", 90, p.x.format(40, 16));
+        p.totals(0, NEW);
+        p.is("larger", 194, p.x.format(60, 100));
+        p.totals(5, 100, 0, 0, 63, 0, 0, 0, 0, 0, 0, 0, 0, 60, 0);
+        p.is("nothing is written", 0, p.x.sync());
+        p.file("f");
+        p.x.truncate(0, 80 * 256);
+        p.is("no old data", 16384L << 32, p.x.sum(0, 0, 16384));
+        p.is("no BLOCK", 0, p.x.infoOf(0, 4));
+        p.x.sync();
+        p.x.crash();
+        p.is("recover", 1, p.x.recover());
+        p.totals(5, 99, 0, 0, 62, 0, 0, 0);
+    }
+
     private static void formatEmptiesThePaths() {
         Probe p = new Probe(2, "PATHS and the TAPE empty");
         p.at("a").to("b").x.format(40, 16);
